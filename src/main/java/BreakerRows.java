@@ -811,8 +811,6 @@ public final class BreakerRows {
         private final int[] lines = new int[MOST_STEPS];
         private final int[] path = new int[MOST_STEPS];
         private final int[] dials = new int[MOST_KNOTS];
-        /** Bits of the sets of steps taken from which the GOAL can't be reached. */
-        private final int[] dead = new int[1 << (MOST_STEPS - 5)];
 
         Order(Rows rows, Demands demands) {
             this.rows = rows;
@@ -834,44 +832,42 @@ public final class BreakerRows {
             return true;
         }
 
-        /** How many steps, now kept; NONE if there is no order. All is RIGHT at first when this is asked. */
+        /**
+         * How many steps, now kept; NONE if there is no order. All is RIGHT at first when this is asked.
+         * A demand binds two DIALS at most. If it is met at first and at the end, then it can only say which of the
+         * two goes first; if it isn't met at the end, one of them never goes. So a step that can be taken can be taken
+         * later, too, and taking the lowest one each time bars no other.
+         */
         int find() {
-            for (int i = 0; i < dead.length; i++) {
-                dead[i] = 0;
-            }
             System.arraycopy(rows.dials, 0, dials, 0, MOST_KNOTS);
-            if (!goOn(0, 0)) {
-                return NONE;
+            int taken = 0;
+            for (int i = 0; i < many && i < MOST_STEPS; i++) {
+                int at = lowestThatCanGo(taken);
+                if (at == NONE) {
+                    return NONE;
+                }
+                taken |= 1 << at;
+                path[i] = lines[at];
             }
             System.arraycopy(path, 0, kept, 0, MOST_STEPS);
             steps = many;
             return steps;
         }
 
-        /** Goes on from the set of steps taken, the lower LINES first; the depth is how many were taken. */
-        private boolean goOn(int taken, int depth) {
-            if (depth >= many || depth >= MOST_STEPS) {
-                return true;
-            }
+        /** Gives the first LINE not taken by which all stays RIGHT its DIAL of the GOAL: its place, or NONE. */
+        private int lowestThatCanGo(int taken) {
             for (int i = 0; i < many; i++) {
-                int next = taken | (1 << i);
-                if (next != taken && !isDead(next)) {
+                if (!holds(taken, i)) {
                     int b = lines[i];
-                    path[depth] = b;
                     dials[b] = rows.goalDials[b];
                     // one DIAL alone is new, so what was RIGHT can be broken around it only
-                    if (demands.areMetAround(b, dials) && goOn(next, depth + 1)) {
-                        return true;
+                    if (demands.areMetAround(b, dials)) {
+                        return i;
                     }
                     dials[b] = rows.dials[b];
-                    dead[next >> 5] |= 1 << (next & 31);
                 }
             }
-            return false;
-        }
-
-        private boolean isDead(int taken) {
-            return ((dead[taken >> 5] >> (taken & 31)) & 1) != 0;
+            return NONE;
         }
     }
 }

@@ -1,7 +1,9 @@
 import java.math.BigInteger;
 import java.util.ArrayList;
+import java.util.HashSet;
 import java.util.List;
 import java.util.Random;
+import java.util.Set;
 
 /** Runs of drawn calls (the seeds are fixed) against a second, plainer reading of the document. */
 public final class ModelTest {
@@ -473,24 +475,27 @@ public final class ModelTest {
                 }
             }
             List<Integer> taken = new ArrayList<>();
-            if (others.size() > 10 || !orderFrom(others, taken)) {
+            if (others.size() > 10 || !orderFrom(others, taken, new HashSet<>())) {
                 return NONE;
             }
             order = taken;
             return order.size();
         }
 
-        /** Tries all orders, the first by its LINES first. */
-        boolean orderFrom(List<Integer> others, List<Integer> taken) {
+        /** Tries all orders, the first by its LINES first; sets of LINES from which none goes on are not tried again. */
+        boolean orderFrom(List<Integer> others, List<Integer> taken, Set<Set<Integer>> dead) {
             if (taken.size() == others.size()) {
                 return true;
+            }
+            if (dead.contains(Set.copyOf(taken))) {
+                return false;
             }
             for (int k : others) {
                 if (!taken.contains(k)) {
                     int was = cuts.get(k).dial;
                     cuts.get(k).dial = cuts.get(k).goal;
                     taken.add(k);
-                    boolean found = right()[0] == 0 && orderFrom(others, taken);
+                    boolean found = right()[0] == 0 && orderFrom(others, taken, dead);
                     cuts.get(k).dial = was;
                     if (found) {
                         return true;
@@ -498,6 +503,7 @@ public final class ModelTest {
                     taken.remove(taken.size() - 1);
                 }
             }
+            dead.add(Set.copyOf(taken));
             return false;
         }
 
@@ -527,10 +533,12 @@ public final class ModelTest {
     private final Model model = new Model();
     private final BreakerRows real = new BreakerRows();
     private final List<String> told = new ArrayList<>();
+    private final boolean wide;
     private int knots = 1;
 
     private ModelTest(int seed) {
         this.seed = seed;
+        this.wide = seed % 10 == 0;
         this.draw = new Random(seed);
     }
 
@@ -654,8 +662,8 @@ public final class ModelTest {
     }
 
     private void build() {
-        int lines = from(1, 9);
-        int deep = from(0, 3);
+        int lines = wide ? from(10, 29) : from(1, 9);
+        int deep = wide ? from(0, 1) : from(0, 3);
         for (int i = 0; i < lines; i++) {
             lineTo(from(0, 3) < deep ? knots - 1 : from(0, knots - 1), from(1, 12));
         }
@@ -671,8 +679,8 @@ public final class ModelTest {
         }
         sourceBe(from(500, 4000), from(1, 6));
         for (int k = 1; k < knots; k++) {
-            if (k == 1 || from(0, 4) > 0) {
-                breakerAt(k, from(0, 2), from(1, 40), from(3, 30));
+            if (k == 1 || real.lineOf(k, 0) == 0 && wide || from(0, 4) > 0) {
+                breakerAt(k, from(0, 2), from(1, 40), from(3, wide ? 12 : 30));
             }
         }
         toldBe(from(1, 20), from(0, 3) > 0 ? 100000 : from(20, 400), from(0, 2) == 0 ? from(1, 30) : 0);
@@ -694,7 +702,7 @@ public final class ModelTest {
             case 4 -> toldBe(from(0, 12), from(0, 2) > 0 ? 100000 : from(10, 300), from(0, 1) * from(-1, 40));
             case 5 -> loadAt(from(-1, knots), from(0, 6));
             case 6 -> {
-                if (knots < 11) {
+                if (wide || knots < 11) {
                     lineTo(from(0, knots - 1), from(1, 20));
                 }
             }
@@ -727,10 +735,11 @@ public final class ModelTest {
     }
 
     private void raiseSome() {
-        for (int i = 0; i < 8; i++) {
+        int tries = wide ? 16 : 8;
+        for (int i = 0; i < tries; i++) {
             int k = someLine();
             int was = real.lineOf(k, 6);
-            dialAt(k, from(1, 40));
+            dialAt(k, draw.nextBoolean() ? was + from(-3, 6) : from(1, 40));
             if (was != NONE && real.right(0) != 0 && from(0, 60) > 0) {
                 dialAt(k, was);
             }
@@ -767,7 +776,8 @@ public final class ModelTest {
         System.out.println(runs + " drawn runs, " + wrong + " answers not as due; fits " + fitsSeen + ", right "
                 + java.util.Arrays.toString(rightSeen) + ", orders " + java.util.Arrays.toString(ordersSeen)
                 + ", turned " + turnedOrders + ", none at all " + deadEnds);
-        boolean thin = fitsSeen < 100 || turnedOrders < 20 || deadEnds < 5;
+        boolean thin = fitsSeen < 100 || turnedOrders < 100 || deadEnds < 20;
+        thin |= ordersSeen[6] + ordersSeen[7] + ordersSeen[8] + ordersSeen[9] + ordersSeen[10] < 40;
         for (int seen : rightSeen) {
             thin |= seen < 20;
         }

@@ -70,6 +70,7 @@ public final class PromiseTest {
         change();
         changeOfMany();
         step();
+        fullNet();
         about();
         System.out.println(asked + " answers asked, " + wrong + " not as due");
         if (wrong != 0) {
@@ -961,6 +962,24 @@ public final class PromiseTest {
         due(x.change(), 10);
         due(x.step(0), 1);
         due(x.step(9), 11);
+        // TICKS of 1 below, as quick as can be, are waited for, too
+        BreakerRows z = new BreakerRows();
+        z.line(0, 1);
+        z.line(1, 1);
+        z.corner(0, 10, 1);
+        z.breaker(1, 0, 8, 1);
+        z.breaker(2, 0, 4, 1);
+        z.told(3, 100000, 0);
+        z.goal();
+        z.dial(1, 5);
+        z.dial(2, 2);
+        due(z.change(), 2);
+        due(z.step(0), 1);
+        z.goal();
+        z.dial(1, 8);
+        z.dial(2, 4);
+        due(z.change(), 2);
+        due(z.step(0), 2);
         // a long row must be let down from its end, and raised from its head
         BreakerRows y = new BreakerRows();
         y.corner(0, 10, 5);
@@ -1010,6 +1029,44 @@ public final class PromiseTest {
         due(x.change(), NONE);
         due(x.step(0), 2);
         due(x.step(1), 1);
+    }
+
+    /** All thirty KNOTS in a row, with a BREAKER on each LINE. */
+    private static void fullNet() {
+        promise = 17;
+        BreakerRows x = new BreakerRows();
+        x.source(10000, 1);
+        x.corner(0, 10, 10);
+        for (int k = 1; k <= 29; k++) {
+            x.line(k - 1, 1);
+            x.breaker(k, 0, 40, 1);
+        }
+        due(x.dial(29, 39), true);
+        due(x.lineOf(29, 6), 39);
+        due(x.lineOf(29, 1), 29);
+        due(x.lineOf(29, 2), 28);
+        due(x.fit(), 29 * 30 / 2);
+        due(x.lineOf(29, 6), 1);
+        due(x.lineOf(1, 6), 29);
+        due(x.right(0), 0);
+        due(x.run(29, 16, 0), 10);
+        due(x.ran(29, 0), 1);
+        due(x.ran(29, 1), 1);
+        due(x.ran(28, 1), 0);
+        due(x.goal(), 29);
+        due(x.dial(1, 40), true);
+        due(x.change(), 1);
+        due(x.load(29, 1), true);
+        due(x.right(0), 4);
+        due(x.growth(), 99);
+        due(x.remove(29), true);
+        due(x.about(1), 28);
+        due(x.right(1), 1);
+        due(x.load(29, 0), true);
+        due(x.told(10, 100000, 1000), true);
+        due(x.fit(), 28 * 29 / 2);
+        due(x.told(21, 100000, 0), true);
+        due(x.fit(), NONE);
     }
 
     private static void about() {

@@ -314,7 +314,7 @@ public final class BreakerRows {
 
     /** Whether the bit of a KNOT or LINE is set in a mask. */
     private static boolean holds(int mask, int b) {
-        return isWithin(b, 0, MOST_KNOTS - 1) && ((mask >> b) & 1) != 0;
+        return b >= 0 && b < MOST_KNOTS && ((mask >> b) & 1) != 0;
     }
 
     private int nextOf(int k) {
@@ -582,7 +582,7 @@ public final class BreakerRows {
         }
 
         int cornerReached(int b, long current, long parts) {
-            if (!isThere(b)) {
+            if (!holds(there, b)) {
                 return NONE;
             }
             return curves[curveAt[b]].cornerReached(picks[b], current, parts);
@@ -593,8 +593,12 @@ public final class BreakerRows {
         }
 
         int waitAt(int b, long current, long parts) {
-            int corner = cornerReached(b, current, parts);
-            return corner == NONE ? NONE : dials[b] * ticksAt(b, corner);
+            if (!holds(there, b)) {
+                return NONE;
+            }
+            Curve curve = curves[curveAt[b]];
+            int corner = curve.cornerReached(picks[b], current, parts);
+            return corner == NONE ? NONE : dials[b] * curve.ticks[corner];
         }
 
         /** Ten times the least current that the BREAKER SEES; NONE if it SEES nothing. */

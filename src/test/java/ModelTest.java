@@ -482,7 +482,7 @@ public final class ModelTest {
             return order.size();
         }
 
-        /** Tries all orders, the first by its LINES first; sets of LINES from which none goes on are not tried again. */
+        /** Tries all orders, the first by its LINES first; sets that lead nowhere are not tried again. */
         boolean orderFrom(List<Integer> others, List<Integer> taken, Set<Set<Integer>> dead) {
             if (taken.size() == others.size()) {
                 return true;

@@ -107,7 +107,8 @@ public final class PromiseTest {
         due(x.source(10000, 1000), true);
         due(x.about(2), 10000);
         due(x.about(3), 1000);
-        int[][] bad = {{0, 5}, {10001, 5}, {5, 0}, {5, 1001}, {-1, 5}, {5, -1}, {LOW, 5}, {HIGH, 5}, {5, LOW}, {5, HIGH}};
+        int[][] bad = {{0, 5}, {10001, 5}, {5, 0}, {5, 1001}, {-1, 5}, {5, -1}, {LOW, 5}, {HIGH, 5},
+            {5, LOW}, {5, HIGH}};
         for (int[] b : bad) {
             due(x.source(b[0], b[1]), false);
         }

@@ -67,7 +67,7 @@ final class Edges {
         return "?";
     }
 
-    /** Numbers outside a range: its neighbours, those that a shift or a narrower number would wrap into it, the ends. */
+    /** Numbers outside a range: its neighbours, those that a shift or a narrower type would wrap into it, the ends. */
     static int[] outside(int low, int high) {
         int[] all = {LOW, LOW + 1, LOW + low, LOW + high, low - 65536, low - 256, low - 32, low - 1, high + 1, low + 32,
             high + 32, low + 256, low + 65536, HIGH - high, HIGH - 1, HIGH};

@@ -23,6 +23,7 @@ public final class EdgeSeekTest {
         Edges.says("LEAST DIALS: by each FAULT ASKED", EdgeSeekTest::fitsAllFaults);
         Edges.says("LEAST DIALS: by the first and the last place alone", EdgeSeekTest::fitsTheEnds);
         Edges.says("LEAST DIALS: up to 8 CORNERS", EdgeSeekTest::fitsTheLastCorner);
+        Edges.says("LEAST DIALS: of those that SEE it, the next one below", EdgeSeekTest::fitsAcrossTheBlind);
         Edges.says("LEAST DIALS: TICKS (1 .. 1000", EdgeSeekTest::fitsLeastTicks);
         Edges.says("LEAST DIALS: DIAL (1 .. 40)", EdgeSeekTest::fitsFortyAtMost);
         Edges.says("LEAST DIALS: a full row", EdgeSeekTest::fitsAFullRow);
@@ -257,6 +258,36 @@ public final class EdgeSeekTest {
         x.told(1, 100000, 129);
         Edges.due(x.fit(), 4 + 2 + 1);
         dueDials(x, 4, 2, 1);
+    }
+
+    private static void fitsAcrossTheBlind() {
+        // LINE 2's is blind behind LINE 3's s = 0, so LINE 1's, by the last of eight CORNERS, waits for LINE 3's there
+        BreakerRows x = Edges.pair(1, 9, 6, 9);
+        x.line(2, 10);
+        for (int i = 1; i <= 8; i++) {
+            x.corner(3, 10 * i, 90 - 10 * i);
+        }
+        x.corner(4, 10, 5);
+        x.breaker(1, 3, 3, 1);
+        x.breaker(2, 2, 3, 50);
+        x.breaker(3, 4, 3, 1);
+        Edges.due(x.fit(), 3);
+        x.goal();
+        for (int k = 1; k <= 3; k++) {
+            x.dial(k, 3);
+        }
+        Edges.dueOrder(x, 3, 2, 1);
+        // LINE 3's is slow just there
+        x.corner(5, 10, 40);
+        x.corner(5, 500, 5);
+        x.breaker(3, 5, 2, 1);
+        Edges.due(x.fit(), 7);
+        dueDials(x, 5, 1, 1);
+        x.goal();
+        x.dial(1, 9);
+        x.dial(2, 2);
+        x.dial(3, 2);
+        Edges.dueOrder(x, 3, 1, 2);
     }
 
     private static void fitsLeastTicks() {

@@ -5,7 +5,8 @@ import java.util.Random;
 
 /**
  * Small nets with numbers from the whole of their ranges (the seeds are fixed): of all DIALS those that are RIGHT are
- * found one by one and held against fit(), and all orders of steps against change().
+ * found one by one and held against fit(), and all orders of steps against change(). Every third net is of twos alone,
+ * so that currents are often just what a CORNER asks.
  */
 public final class AllDialsTest {
     private static final int NONE = -1;
@@ -31,6 +32,7 @@ public final class AllDialsTest {
     private final int[][] ticks = new int[CURVES][0];
     private final List<Integer> breakers = new ArrayList<>();
     private final boolean[] has;
+    private final boolean ofTwos;
     private int force;
     private int feed;
     private int margin;
@@ -40,6 +42,7 @@ public final class AllDialsTest {
     private AllDialsTest(int seed) {
         this.seed = seed;
         draw = new Random(seed);
+        ofTwos = seed % 3 == 0;
         lines = 1 + draw.nextInt(5);
         from = new int[lines + 1];
         ohm = new int[lines + 1];
@@ -126,21 +129,30 @@ public final class AllDialsTest {
     }
 
     private void build() {
-        force = spread(1000, 10000);
-        feed = spread(1, 20);
+        feed = ofTwos ? 1 : spread(1, 20);
+        force = ofTwos ? 8192 : spread(1000, 10000);
         margin = spread(1, spread(1, 10000));
-        limit = draw.nextInt(3) == 0 ? spread(1, 100000) : 100000;
-        last = draw.nextInt(2) * spread(1, 100);
-        must(real.source(force, feed) && real.told(margin, limit, last), "source, told");
+        last = ofTwos ? 0 : draw.nextInt(2) * spread(1, 100);
+        must(real.source(force, feed), "source");
         int most = spread(1, 1000);
         for (int k = 1; k <= lines; k++) {
             from[k] = draw.nextInt(3) > 0 ? k - 1 : draw.nextInt(k);
-            ohm[k] = spread(1, most);
+            // of twos: what is above is doubled by each LINE
+            ohm[k] = ofTwos ? (int) (sum(k, 0, 0) / 16) : spread(1, most);
             must(real.line(from[k], ohm[k]) == k, "line");
         }
         for (int c = 0; c < CURVES; c++) {
             bend(c);
         }
+        placeBreakers();
+        limit = limitNear();
+        must(real.told(margin, limit, last), "told");
+        int knot = draw.nextInt(lines + 1);
+        loads[knot] = draw.nextInt(3) == 0 ? spread(1, 1000) : 0;
+        must(real.load(knot, loads[knot]), "load");
+    }
+
+    private void placeBreakers() {
         for (int k = 1; k <= lines && breakers.size() < MOST_BREAKERS; k++) {
             if (from[k] == 0 || draw.nextInt(4) > 0) {
                 breakers.add(k);
@@ -150,13 +162,19 @@ public final class AllDialsTest {
                 must(real.breaker(k, curveAt[k], 1 + draw.nextInt(40), picks[k]), "breaker");
             }
         }
-        int knot = draw.nextInt(lines + 1);
-        loads[knot] = draw.nextInt(3) == 0 ? spread(1, 1000) : 0;
-        must(real.load(knot, loads[knot]), "load");
+    }
+
+    /** Often just what a BREAKER WAITS, or one less. */
+    private int limitNear() {
+        if (breakers.isEmpty() || draw.nextInt(2) == 0) {
+            return draw.nextInt(3) == 0 ? spread(1, 100000) : 100000;
+        }
+        int[] row = ticks[curveAt[breakers.get(draw.nextInt(breakers.size()))]];
+        return Math.max(1, spread(1, 40) * row[draw.nextInt(row.length)] - draw.nextInt(2));
     }
 
     private void bend(int c) {
-        int m = spread(10, 20);
+        int m = ofTwos ? 10 : spread(10, 20);
         int t = spread(5, 1000);
         int many = 1 + draw.nextInt(8);
         for (int i = 1; i <= many && m <= 1000 && t >= 1; i++) {
@@ -165,7 +183,7 @@ public final class AllDialsTest {
             ticks[c] = Arrays.copyOf(ticks[c], i);
             multiples[c][i - 1] = m;
             ticks[c][i - 1] = t;
-            m += spread(1, 200);
+            m += ofTwos ? m : spread(1, 200);
             t -= spread(1, Math.max(1, t / 3));
         }
     }

@@ -75,7 +75,7 @@ public final class WildTest {
         return all;
     }
 
-    /** A full net, ten LINES to change, and an end that isn't RIGHT, which a search through all orders would find late. */
+    /** A full net, ten LINES to change, and an end that isn't RIGHT: a search through all orders ends late. */
     private static boolean dearestEnds() {
         BreakerRows x = new BreakerRows();
         x.source(10000, 1);
